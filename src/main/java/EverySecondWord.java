@@ -34,7 +34,7 @@ public final class EverySecondWord {
   private final Reader reader = new Reader();
   private final Mind mind = new Mind(world);
   private final Beginnings beginnings = new Beginnings(world, mind);
-  private final Power power = new Power(world);
+  private final Power power = new Power(world, mind);
   private final Reach reach = new Reach(world);
   private final int[] row = new int[MOST_ROW];
   private final int[] refusals = new int[7];
@@ -593,15 +593,12 @@ public final class EverySecondWord {
       }
     }
 
-    /** The spot behind a word; the same spot where there is no rule. */
+    /** The spot behind a word: the count grows in any case, so that no walk over spots is without end. */
     int spotBehind(int spot, int word) {
       int state = stateAt(spot);
-      if (word < 0 || word >= WORDS || (wordsFrom[state] >> word & 1) == 0) {
-        return spot;
-      }
-      int rule = ruleBy[state * WORDS + word];
+      int rule = word >= 0 && word < WORDS ? ruleBy[state * WORDS + word] : NONE;
       if (rule < 0 || rule >= MOST_RULES) {
-        return spot;
+        return spotOf(countAt(spot) + 1, state, meaningAt(spot));
       }
       int bit = mark[rule] < 0 ? 0 : 1 << mark[rule];
       return spotOf(countAt(spot) + 1, to[rule], meaningAt(spot) ^ bit);
@@ -686,16 +683,6 @@ public final class EverySecondWord {
 
     int worthOf(int person, int mark) {
       return has(person) && mark >= 0 && mark < MARKS ? worths[person * MARKS + mark] : 0;
-    }
-
-    int worthOfMeaning(int person, int meaning) {
-      int worth = 0;
-      if (has(person)) {
-        for (int mark = 0; mark < MARKS; mark++) {
-          worth += (meaning >> mark & 1) * worths[person * MARKS + mark];
-        }
-      }
-      return worth;
     }
 
     boolean putWorth(int person, int mark, int v) {
@@ -1085,12 +1072,21 @@ public final class EverySecondWord {
       for (int slot = 0; slot < SLOTS; slot++) {
         int all = 0;
         for (int person = 0; person < people && person < MOST_PEOPLE; person++) {
-          int worth = slot == SLOT_STUCK ? -world.loss : world.people.worthOfMeaning(person, slot);
+          int worth = slot == SLOT_STUCK ? -world.loss : weighMeaning(person, slot);
           worths[person * SLOTS + slot] = worth;
           all += worth;
         }
         worths[ALL * SLOTS + slot] = all;
       }
+    }
+
+    /** Built on the meaning without its lowest mark, which was weighed before. */
+    private int weighMeaning(int person, int meaning) {
+      if (meaning == 0) {
+        return 0;
+      }
+      int mark = Integer.numberOfTrailingZeros(meaning);
+      return worthAt(person, meaning & meaning - 1) + world.people.worthOf(person, mark);
     }
 
     private int worthAt(int person, int slot) {
@@ -1111,11 +1107,10 @@ public final class EverySecondWord {
       if (kind == BRIEF || kind == PLAIN) {
         return leastOf(options);
       }
-      return bestDeed(spot, sayer, kind);
+      return bestDeed(spot, options, sayer, kind);
     }
 
-    private int bestDeed(int spot, int sayer, int kind) {
-      int options = world.options(spot);
+    private int bestDeed(int spot, int options, int sayer, int kind) {
       int best = NONE;
       int most = 0;
       for (int deed = 0; deed <= STOP; deed++) {
@@ -1148,11 +1143,12 @@ public final class EverySecondWord {
 
     /** The depth is the count in the spot: at LENGTH there are no options. */
     private int endFrom(int spot) {
-      if (spot < 0 || spot >= SPOTS || world.options(spot) == 0) {
+      if (spot < 0 || spot >= SPOTS) {
         return world.endByItself(spot);
       }
       if (ends[spot] >>> END_BITS != age) {
-        int end = endAfter(spot, deedAt(spot));
+        int deed = deedAt(spot);
+        int end = deed == NONE ? world.endByItself(spot) : endAfter(spot, deed);
         ends[spot] = age << END_BITS | end;
       }
       return ends[spot] & END_MASK;
@@ -1175,7 +1171,7 @@ public final class EverySecondWord {
         return dreamFrom(dreamer, world.after(spot, leastOf(options)));
       }
       if (dreams[spot] >>> END_BITS != age) {
-        int end = dreamAfter(dreamer, spot, bestDeed(spot, dreamer, BLIND));
+        int end = dreamAfter(dreamer, spot, bestDeed(spot, options, dreamer, BLIND));
         dreams[spot] = age << END_BITS | end;
       }
       return dreams[spot] & END_MASK;
@@ -1341,6 +1337,7 @@ public final class EverySecondWord {
   /** What one can be sure of, whatever the others do. */
   private static final class Power {
     private final World world;
+    private final Mind mind;
     // Two rows by state, of an even count and of an odd one: sets of meanings, and words in all.
     private final long[] sets = new long[2 * STATES];
     private final int[] lengths = new int[2 * STATES];
@@ -1349,8 +1346,9 @@ public final class EverySecondWord {
     private boolean stuckIsGood = false;
     private int goneRules = 0;
 
-    Power(World world) {
+    Power(World world, Mind mind) {
       this.world = world;
+      this.mind = mind;
     }
 
     long meaningsWith(int mark) {
@@ -1367,6 +1365,7 @@ public final class EverySecondWord {
     }
 
     int surestWorth(int one) {
+      mind.renew();
       person = one;
       goneRules = 0;
       int least = -MOST_LOSS;
@@ -1423,7 +1422,7 @@ public final class EverySecondWord {
     private long meaningsWorth(int least) {
       long set = 0L;
       for (int meaning = 0; meaning < 1 << MARKS; meaning++) {
-        if (world.people.worthOfMeaning(person, meaning) >= least) {
+        if (mind.worthOfEnd(person, endOf(0, false, meaning)) >= least) {
           set |= 1L << meaning;
         }
       }
