@@ -899,7 +899,7 @@ public final class EverySecondWord {
     private boolean isWellFormed() {
       at = 0;
       boolean fine = isStatement();
-      while (fine && at < size) {
+      for (int i = 0; i < MOST_LETTERS && fine && at < size; i++) {
         fine = isStatement();
       }
       return fine;
@@ -1357,24 +1357,19 @@ public final class EverySecondWord {
 
     /** Whether one can have the talk end with one of the good meanings (or stuck, if that is good). */
     boolean ensuresNow(int one, long good, boolean stuck) {
-      person = one;
-      goodMeanings = good;
-      stuckIsGood = stuck;
-      goneRules = 0;
-      return ensuresFromNow();
+      ask(one, good, stuck);
+      int spot = world.talk.spot();
+      return world.talk.stopped ? (good >>> meaningAt(spot) & 1L) != 0L : ensuresFrom(spot);
     }
 
+    /** By halves between the least that any end is worth and the most; eight halves are enough. */
     int surestWorth(int one) {
       mind.renew();
-      person = one;
-      goneRules = 0;
       int least = -MOST_LOSS;
       int most = MARKS * MOST_WORTH;
-      while (least < most) {
+      for (int i = 0; i < 8 && least < most; i++) {
         int middle = Math.floorDiv(least + most + 1, 2);
-        goodMeanings = meaningsWorth(middle);
-        stuckIsGood = -world.loss >= middle;
-        if (ensuresFromNow()) {
+        if (ensuresNow(one, meaningsWorth(one, middle), -world.loss >= middle)) {
           least = middle;
         } else {
           most = middle - 1;
@@ -1385,9 +1380,7 @@ public final class EverySecondWord {
 
     /** The fewest rules without which one can no more force a mark from the beginning, as bits. */
     int fewestRules(int one, int mark) {
-      person = one;
-      goodMeanings = meaningsWith(mark);
-      stuckIsGood = false;
+      ask(one, meaningsWith(mark), false);
       if (!ensuresWithout(0)) {
         return 0;
       }
@@ -1407,7 +1400,7 @@ public final class EverySecondWord {
     }
 
     int mostWords(int one) {
-      person = one;
+      ask(one, 0L, false);
       if (world.talk.stopped) {
         return world.talk.size;
       }
@@ -1419,10 +1412,17 @@ public final class EverySecondWord {
       return lengths[rowOf(start) + stateAt(spot)];
     }
 
-    private long meaningsWorth(int least) {
+    private void ask(int one, long good, boolean stuck) {
+      person = one;
+      goodMeanings = good;
+      stuckIsGood = stuck;
+      goneRules = 0;
+    }
+
+    private long meaningsWorth(int one, int least) {
       long set = 0L;
       for (int meaning = 0; meaning < 1 << MARKS; meaning++) {
-        if (mind.worthOfEnd(person, endOf(0, false, meaning)) >= least) {
+        if (mind.worthOfEnd(one, endOf(0, false, meaning)) >= least) {
           set |= 1L << meaning;
         }
       }
@@ -1432,11 +1432,6 @@ public final class EverySecondWord {
     private boolean ensuresWithout(int rules) {
       goneRules = rules;
       return ensuresFrom(0);
-    }
-
-    private boolean ensuresFromNow() {
-      int spot = world.talk.spot();
-      return world.talk.stopped ? (goodMeanings >>> meaningAt(spot) & 1L) != 0L : ensuresFrom(spot);
     }
 
     /** Backward from the last words, for all states and meanings at once. */

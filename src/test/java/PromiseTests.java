@@ -27,6 +27,7 @@ public final class PromiseTests {
     deedsOverSeveralTurns();
     promises18To21();
     promises22To26();
+    whatOneIsSureOf();
     promises27To28();
     promises29To31();
     promises32To35();
@@ -35,6 +36,7 @@ public final class PromiseTests {
     promises38To39();
     promise40();
     promises41To42();
+    imageOfALongTalk();
     promise43();
     due.close("PromiseTests");
   }
@@ -470,6 +472,30 @@ public final class PromiseTests {
     due.is("26: SIGHT", Due.with(SIGHT).sure(0), 1);
   }
 
+  private static void whatOneIsSureOf() {
+    EverySecondWord x = Due.with("l6;r0a1A;r1a2B;r2a3C;r3a4D;r4a5E;r5a6F;e6;", "p0a;");
+    for (int mark = 0; mark < 6; mark++) {
+      x.values(0, mark, 9);
+    }
+    due.is("26: the most of all", x.sure(0), 54);
+    for (int mark = 0; mark < 6; mark++) {
+      x.values(0, mark, -9);
+    }
+    due.is("26: less than LOSS", x.sure(0), -54);
+    x.set(0, 5);
+    x.set(1, 99);
+    due.is("26: LOSS alone", x.sure(0), -99);
+    x.set(1, 0);
+    due.is("26: no LOSS", x.sure(0), 0);
+    EverySecondWord y = Due.with("l1;r0a1A;r0b1A;r0c1;e1;", "p0ab;p0;v0A+4;");
+    due.is("36: least(0, 0)", y.least(0, 0), 3);
+    due.is("26: no rule is gone", y.sure(0), 4);
+    due.is("36: least(0, 0)", y.least(0, 0), 3);
+    due.is("22: no rule is gone", y.forces(0, 0), 1);
+    due.is("36: least(0, 0)", y.least(0, 0), 3);
+    due.is("25: no rule is gone", y.holds(0), 1);
+  }
+
   private static void promises27To28() {
     EverySecondWord x = Due.with("l2;r0a1A;r0b1F;r1a2;r1b2A;r1c3C;e1;e2;", "p0ab;p0abc;");
     // a: A; aa: A; ab: none; b: F; ba: F; bb: A and F; ac, bc: STUCK
@@ -717,6 +743,26 @@ public final class PromiseTests {
     x.anew();
     due.is("42: once more", x.restore(), 1);
     due.is("42: back to no stop", x.back(), 1);
+  }
+
+  private static void imageOfALongTalk() {
+    EverySecondWord x = Due.with("l8;r0a1A;r1a0B;e0;", "p0a;p0a;p0a;");
+    for (int i = 1; i <= 8; i++) {
+      due.is("13: say(0)", x.say(0), i % 2);
+    }
+    due.is("41: eight words", x.image(), 8);
+    x.anew();
+    x.say(0);
+    due.is("42: eight words", x.restore(), 8);
+    due.is("42: their state", x.talk(0), 0);
+    due.is("42: their meaning", x.talk(1), 0);
+    due.is("42: OVER", x.talk(3), 1);
+    due.is("42: whose turn", x.talk(4), 2);
+    for (int i = 7; i >= 0; i--) {
+      due.is("15: back()", x.back(), i);
+      due.is("15: the state", x.talk(0), i % 2);
+      due.is("15: the meaning", x.talk(1), new int[] {0, 1, 3, 2}[i % 4]);
+    }
   }
 
   private static void promise43() {
