@@ -29,19 +29,26 @@ public final class EverySecondWord {
   private static final int MOST_TALKS = 20;
   private static final int STOP = 8;
 
-  private final World world = new World();
+  private final World world;
   private final World image = new World();
   private final Reader reader = new Reader();
-  private final Mind mind = new Mind(world);
-  private final Beginnings beginnings = new Beginnings(world, mind);
-  private final Power power = new Power(world, mind);
-  private final Reach reach = new Reach(world);
+  private final Mind mind;
+  private final Beginnings beginnings;
+  private final Power power;
+  private final Reach reach;
   private final int[] row = new int[MOST_ROW];
   private final int[] refusals = new int[7];
   private int rowSize = 0;
   private boolean hasImage = false;
 
   public EverySecondWord() {
+    World made = new World();
+    Mind minds = new Mind(made);
+    world = made;
+    mind = minds;
+    beginnings = new Beginnings(made, minds);
+    power = new Power(made, minds);
+    reach = new Reach(made);
   }
 
   // ---- what there is ----
@@ -1330,7 +1337,7 @@ public final class EverySecondWord {
 
     private int draw(int n) {
       seed = seed * 1103515245 + 12345;
-      return n > 0 ? ((seed & Integer.MAX_VALUE) >> 16) % n : 0;
+      return n > 0 ? ((seed & 0x7fffffff) >> 16) % n : 0;
     }
   }
 
