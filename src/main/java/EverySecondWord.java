@@ -208,7 +208,7 @@ public final class EverySecondWord {
       case 3:
         return howTheTalkStands();
       case 4:
-        return world.people.size == 0 ? NONE : world.sayer(spot);
+        return world.sayerNow();
       case 5:
         return world.optionsNow() & 255;
       case 6:
@@ -852,6 +852,11 @@ public final class EverySecondWord {
 
     int optionsNow() {
       return talk.stopped ? 0 : options(talk.spot());
+    }
+
+    /** Nobody's turn it is when the talk is at its end, where nothing may be done. */
+    int sayerNow() {
+      return optionsNow() == 0 ? NONE : sayer(talk.spot());
     }
 
     int after(int spot, int word) {

@@ -273,20 +273,24 @@ public final class PromiseTests {
     due.is("17: the state", x.talk(0), 1);
     due.is("14: stop()", x.stop(), 1);
     due.is("17: OVER", x.talk(3), 1);
+    due.is("17: stopped, nobody's turn", x.talk(4), -9);
     due.is("17: OVER, no word", x.talk(5), 0);
     due.is("17: OVER, no stop", x.talk(6), 0);
     due.is("13: say when OVER", x.say(1), -3);
     due.is("14: stop when OVER", x.stop(), -3);
     due.is("15: a stop taken back", x.back(), 1);
     due.is("17: not OVER", x.talk(3), 0);
+    due.is("17: whose turn again", x.talk(4), 1);
     due.is("13: say(2)", x.say(2), 2);
     due.is("17: meaning", x.talk(1), 3);
     due.is("17: OVER by itself", x.talk(3), 1);
+    due.is("17: OVER by itself, nobody's turn", x.talk(4), -9);
     due.is("14: no stop then", x.stop(), -3);
     due.is("16: anew()", x.anew(), 2);
     due.is("16: words said", x.talk(2), 0);
     due.is("13: say(2)", x.say(2), 3);
     due.is("17: STUCK", x.talk(3), 2);
+    due.is("17: STUCK, nobody's turn", x.talk(4), -9);
     due.is("13: say when STUCK", x.say(2), -3);
     due.is("17: talk(7)", x.talk(7), -2);
     due.is("17: talk(-1)", x.talk(-1), -2);
@@ -302,6 +306,7 @@ public final class PromiseTests {
     due.is("17: not yet LENGTH", x.talk(3), 0);
     x.say(0);
     due.is("17: LENGTH in an END", x.talk(3), 1);
+    due.is("17: LENGTH in an END, nobody's turn", x.talk(4), -9);
     due.is("17: no words", x.talk(5), 0);
     due.is("13: no word more", x.say(0), -3);
     due.is("14: no stop", x.stop(), -3);
@@ -316,7 +321,9 @@ public final class PromiseTests {
     EverySecondWord y = Due.with("r0a1;r1a0;l1;", "p0a;");
     y.say(0);
     due.is("17: STUCK at LENGTH", y.talk(3), 2);
-    due.is("17: whose turn", y.talk(4), 0);
+    due.is("17: nobody's turn at LENGTH", y.talk(4), -9);
+    y.back();
+    due.is("17: whose turn ahead of it", y.talk(4), 0);
   }
 
   private static void talksThatChangeBehind() {
@@ -757,9 +764,10 @@ public final class PromiseTests {
     due.is("42: their state", x.talk(0), 0);
     due.is("42: their meaning", x.talk(1), 0);
     due.is("42: OVER", x.talk(3), 1);
-    due.is("42: whose turn", x.talk(4), 2);
+    due.is("42: nobody's turn", x.talk(4), -9);
     for (int i = 7; i >= 0; i--) {
       due.is("15: back()", x.back(), i);
+      due.is("17: whose turn", x.talk(4), i % 3);
       due.is("15: the state", x.talk(0), i % 2);
       due.is("15: the meaning", x.talk(1), new int[] {0, 1, 3, 2}[i % 4]);
     }

@@ -564,7 +564,8 @@ public final class Naive {
     List<Integer> may = w.stopped ? new ArrayList<>() : w.deeds(s);
     boolean stop = may.remove((Integer) 8);
     int over = w.stopped ? 1 : !may.isEmpty() ? 0 : w.ends.contains(s.state) ? 1 : 2;
-    return new int[] {s.state, bits(s.marks), s.count, over, w.sayer(s.count), bits(may), stop ? 1 : 0}[what];
+    int turn = over == 0 ? w.sayer(s.count) : -9;
+    return new int[] {s.state, bits(s.marks), s.count, over, turn, bits(may), stop ? 1 : 0}[what];
   }
 
   public int does() {
