@@ -181,7 +181,7 @@ public final class BoundsOfBeginnings {
     due.is("its words", x.person(0, 1), 2);
   }
 
-  // ---- 32: PRICE "how much more the end is worth to one if it had it (may be below 0)". "Refused as told: -1 either." ----
+  // ---- 32: PRICE "how much more the end is worth to one if it had it (may be below 0)". "-1 either." ----
 
   static void promise32_noSuchPersonOrWord() {
     EverySecondWord x = Due.with(ONE_WORD);
@@ -194,6 +194,12 @@ public final class BoundsOfBeginnings {
     }
     EverySecondWord nobody = new EverySecondWord();
     due.refusedWorth("price of a to", nobody, i -> nobody.price(i, 0), 0, -1);
+  }
+
+  static void promise32_noRules() {
+    EverySecondWord x = Due.with("p0;p0a;");
+    due.row("price(0, ..)", word -> x.price(0, word), 0, 0, 0, 0, 0, 0, 0, 0);
+    due.row("price(1, ..)", word -> x.price(1, word), 0, 0, 0, 0, 0, 0, 0, 0);
   }
 
   static void promise32_aWordThatItHas() {
@@ -255,6 +261,11 @@ public final class BoundsOfBeginnings {
     due.refusedWorth("knows", nobody, nobody::knows, 0, -1);
   }
 
+  static void promise34_noRules() {
+    due.row("knows", Due.with("p4a;p4;")::knows, 0, 0);
+    due.row("knows, OVER at once", Due.with("e0;", "p4a;p4;")::knows, 0, 0);
+  }
+
   static void promise34_noneIsBlind() {
     EverySecondWord x = Due.with(SIGHT);
     for (int kind = 0; kind <= 6; kind++) {
@@ -300,7 +311,8 @@ public final class BoundsOfBeginnings {
 
   /** The first says b alone to one that is known to take A at once: any other kind would bring C or D. */
   static void promise35_asGreedyAlone() {
-    EverySecondWord x = Due.with("r0a5;r0b1;r1a6C;r1b6A;r1c2B;r2a6D;e5;e6;", "p0ab;p0abc;v1A+2;v1B+1;v1D+9;v0A+1;v0C-9;v0D-5;");
+    EverySecondWord x = Due.with("r0a5;r0b1;r1a6C;r1b6A;r1c2B;r2a6D;e5;e6;",
+        "p0ab;p0abc;v1A+2;v1B+1;v1D+9;v0A+1;v0C-9;v0D-5;");
     due.is("as(1)", x.as(1), 6);
     due.is("it stays", x.person(1, 0), 0);
     due.is("as a BEST", x.value(1), 0);
@@ -371,7 +383,8 @@ public final class BoundsOfBeginnings {
   }
 
   static void promise37_eachKindsOwnWord() {
-    EverySecondWord x = Due.with("l1;r0a1A;r0b1B;r0c1C;r0d1D;e0;e1;", "p0abcd;p1;v0A+1;v0B+5;v0C+3;v1A+4;v1B+2;v1C-9;v1D+9;");
+    EverySecondWord x = Due.with("l1;r0a1A;r0b1B;r0c1C;r0d1D;e0;e1;",
+        "p0abcd;p1;v0A+1;v0B+5;v0C+3;v1A+4;v1B+2;v1C-9;v1D+9;");
     int[] fitting = {2, 1 + 16 + 64, 4, 8, 0};
     for (int word = 0; word < 4; word++) {
       x.say(word);

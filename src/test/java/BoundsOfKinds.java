@@ -91,7 +91,7 @@ public final class BoundsOfKinds {
   /** "of all words that MAY be said, rising, and (in an END) to stop, behind them". */
   static void promise18_aStopThatIsWorthMoreThanAnyWord() {
     for (int kind : WEIGHING) {
-      EverySecondWord x = Due.with("r0b1A;r0h1A;e0;e1;", "p0bh;p0;v0A-1;v1A+1;");
+      EverySecondWord x = Due.with("r0b1A;r0h1A;e0;e1;", "p0bh;p0bh;v0A-1;");
       x.values(1, 0, kind == SPITE ? 1 : 0);
       does("a stop", x, kind, 8);
       Due.tongue(x, "r0c1;");
@@ -230,6 +230,32 @@ public final class BoundsOfKinds {
     does("B is worth less", x, BLIND, 1);
   }
 
+  /** "itself later as a BLIND", not as one that knows the others: it hopes to the end. */
+  static void promise18_blindLaterIsBlindStill() {
+    String[] world = {"r0a1;r0c5C;r1a2;r2a3;r2b4;r3a5B;r3b5;r4a5A;e5;", "p4abc;p2ab;v0A+1;v0B+5;v0C+3;"};
+    EverySecondWord x = Due.with(world);
+    does("B by the last word of the other", x, BLIND, 0);
+    due.is("which is another", x.value(0), 0);
+    does("a BEST knows that A is all", x, BEST, 2);
+    x.values(0, 1, 2);
+    does("B is worth less than C", x, BLIND, 2);
+  }
+
+  /** All that may be said, state, marks and words at their most, and one word more. */
+  static void promise18_theLastPlaceOfAll() {
+    String[] world = {"r0a1A;r1a2B;r2a3C;r3a4D;r4a5E;r5a6F;r6a7;r7a0;e0;l8;", "p0a;v0F+1;"};
+    for (int kind : new int[] {BEST, KIND, BLIND}) {
+      EverySecondWord x = Due.with(world);
+      does("to the eighth word", x, kind, 0);
+      Due.say(x, "aaaaaaa");
+      does("the eighth word", x, kind, 0);
+      due.row("ends", x::ends, 63, 0, 8);
+      x.set(0, 7);
+      x.anew();
+      does("a stop: it would be STUCK", x, kind, 8);
+    }
+  }
+
   /** A LENGTH of 8 is looked through to its end, the first of eight words being said. */
   static void promise18_lookingToTheEighthWord() {
     for (int kind : new int[] {BEST, KIND, BLIND}) {
@@ -296,6 +322,36 @@ public final class BoundsOfKinds {
     due.refused("goes", x, n -> x.goes(), 0, -3);
     due.is("the stop is taken back", x.back(), 0);
     due.is("neither", x.talk(3), 0);
+  }
+
+  /** "By its KIND it is done": by the worths, words and kinds as they are now. */
+  static void promise19_whatChangesBehind() {
+    EverySecondWord x = Due.with("r0a0A;r0b0B;e0;", "p0ab;v0A+1;l1;");
+    due.is("A is worth most", x.goes(), 0);
+    x.back();
+    x.values(0, 1, 2);
+    due.is("B is worth most", x.goes(), 1);
+    x.back();
+    x.word(0, 1, false);
+    due.is("without b", x.goes(), 0);
+    x.back();
+    x.kind(0, BRIEF);
+    due.is("as a BRIEF", x.goes(), 8);
+    x.back();
+    x.kind(0, BEST);
+    x.values(0, 0, -1);
+    due.is("A is worth less than none", x.goes(), 8);
+    x.back();
+    due.is("A is all there is", x.talk(5), 1);
+    Due.tongue(x, "r0c0C;v0C+1;");
+    x.word(0, 2, true);
+    due.is("a new word", x.goes(), 2);
+    x.back();
+    x.image();
+    x.values(0, 2, -1);
+    due.is("C is worth less than none", x.goes(), 8);
+    x.restore();
+    due.is("restored", x.goes(), 2);
   }
 
   // ---- 20: "GOES ON: the MEANING (what 0), 1 STUCK (1), how many words in all (2). -2; -3 nobody." ----

@@ -326,7 +326,7 @@ public final class BoundsOfPeople {
         x = Due.with(FOUR);
       }
       String told = String.format("%04d", digits);
-      boolean each = told.indexOf('0') >= 0 && told.indexOf('1') >= 0 && told.indexOf('2') >= 0 && told.indexOf('3') >= 0;
+      boolean each = told.contains("0") && told.contains("1") && told.contains("2") && told.contains("3");
       due.is("whether " + digits + " is an order", x.order(digits) >= 0 ? 1 : 0, each ? 1 : 0);
       due.is("whether " + -digits + " is one", digits > 0 && x.order(-digits) >= 0 ? 1 : 0, 0);
       orders += each ? 1 : 0;

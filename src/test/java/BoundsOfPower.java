@@ -100,6 +100,29 @@ public final class BoundsOfPower {
     due.is("OVER at LENGTH", x.forces(2, 0), 1);
   }
 
+  static void promise22_noRules() {
+    EverySecondWord stuck = Due.with("p0a;");
+    due.row("STUCK at once: forces(0, ..)", mark -> stuck.forces(0, mark), 0, 0, 0, 0, 0, 0);
+    EverySecondWord over = Due.with("e0;", "p0a;");
+    due.row("OVER at once: forces(0, ..)", mark -> over.forces(0, mark), 0, 0, 0, 0, 0, 0);
+  }
+
+  /** From state 7 as from any other, by one and by the other, asked in turn. */
+  static void promise22_throughTheLastState() {
+    EverySecondWord x = Due.with("r0a7;r7a1A;e1;", "p0a;p0a;");
+    due.row("forces(.., 0)", one -> x.forces(one, 0), 1, 1);
+    x.word(1, 1, true);
+    Due.tongue(x, "r7b1;");
+    due.row("the other may say b: forces(.., 0)", one -> x.forces(one, 0), 0, 1);
+    due.row("and again: forces(.., 0)", one -> x.forces(one, 0), 0, 1);
+    x.word(1, 0, false);
+    due.row("it has no a: forces(.., 0)", one -> x.forces(one, 0), 0, 0);
+    due.row("it has no a: keeps(.., 0)", one -> x.keeps(one, 0), 1, 1);
+    x.word(1, 1, false);
+    due.row("it has neither: sticks", x::sticks, 1, 1);
+    due.row("it has neither: forces(.., 0)", one -> x.forces(one, 0), 0, 0);
+  }
+
   // ---- 23: KEEPS FROM "whether it can, whatever the others do, have the TALK end STUCK or without that MARK". ----
 
   static void promise23_marks0To5() {
@@ -132,6 +155,13 @@ public final class BoundsOfPower {
     x.word(0, 2, true);
     Due.say(x, "c");
     due.row("STUCK with A: keeps(.., 0)", one -> x.keeps(one, 0), 1, 1);
+  }
+
+  static void promise23_noRules() {
+    EverySecondWord stuck = Due.with("p0a;");
+    due.row("STUCK at once: keeps(0, ..)", mark -> stuck.keeps(0, mark), 1, 1, 1, 1, 1, 1);
+    EverySecondWord over = Due.with("e0;", "p0a;");
+    due.row("OVER at once: keeps(0, ..)", mark -> over.keeps(0, mark), 1, 1, 1, 1, 1, 1);
   }
 
   static void promise23_whenOver() {
@@ -276,6 +306,35 @@ public final class BoundsOfPower {
     due.row("the second may stick at 2", y::holds, 2, 8);
   }
 
+  static void promise25_throughTheLastState() {
+    EverySecondWord x = Due.with("r0a7;r7a7;l8;", "p0a;p0a;");
+    due.row("holds", x::holds, 8, 8);
+    x.word(1, 0, false);
+    due.row("the other has no word: holds", x::holds, 1, 1);
+    Due.tongue(x, "r7b1;");
+    x.word(1, 1, true);
+    due.row("it has b alone: holds", x::holds, 2, 2);
+    x.word(1, 0, true);
+    due.row("it has a and b: holds", x::holds, 2, 8);
+  }
+
+  /** Of 24 RULES the last one holds as the first. */
+  static void promise25_byTheLastOf24Rules() {
+    EverySecondWord x = Due.with("r1a0;r1b0;r1c0;r1d0;r1e0;r1f0;r1g0;r1h0;", "r2a0;r2b0;r2c0;r2d0;r2e0;r2f0;r2g0;r2h0;",
+        "r3a0;r3b0;r3c0;r3d0;r3e0;r3f0;r3g0;r0a4A;", "e4;p0a;v0A+3;");
+    due.is("rules", x.count(0), 24);
+    due.is("holds(0)", x.holds(0), 1);
+    due.is("forces(0, 0)", x.forces(0, 0), 1);
+    due.is("sure(0)", x.sure(0), 3);
+    due.row("meanings", x::meanings, 1, -9);
+    due.is("canStick()", x.canStick(), 0);
+    due.is("value(0)", x.value(0), 3);
+    due.is("does()", x.does(), 0);
+    due.is("seeds(0, 1, 1)", x.seeds(0, 1, 1), 3);
+    due.is("row(0)", x.row(0), 1);
+    due.is("judge()", x.judge(), -9);
+  }
+
   // ---- 26: SURE "the greatest WORTH of the end that one can be sure of". "Refused as told: -1." ----
 
   static void promise26_noSuchPerson() {
@@ -308,6 +367,11 @@ public final class BoundsOfPower {
       x.set(1, loss);
       due.row("sure, LOSS " + loss + ",", x::sure, -loss, -loss);
     }
+  }
+
+  static void promise26_noRules() {
+    due.row("STUCK at once: sure", Due.with("p0a;p0a;v0A+9;")::sure, -5, -5);
+    due.row("OVER at once: sure", Due.with("e0;", "p0a;p0a;v0A+9;")::sure, 0, 0);
   }
 
   static void promise26_stuckOrAnEnd() {
@@ -422,6 +486,40 @@ public final class BoundsOfPower {
     due.row("LENGTH 7, behind a", x::meanings, -9);
   }
 
+  /** "whatever all do": what they MAY do, each with its words in its turn. */
+  static void promise27_wordsThatOneHasNot() {
+    EverySecondWord x = Due.with("r0a0A;r0b0B;r0c0C;r0d0D;e0;l3;", "p0a;p0b;p0c;");
+    due.row("a, b, c", x::meanings, 0, 1, 3, 7, -9);
+    x.word(1, 1, false);
+    due.row("a alone, the second has no word", x::meanings, 0, 1, -9);
+    x.word(1, 3, true);
+    due.row("a, d, c", x::meanings, 0, 1, 9, 13, -9);
+  }
+
+  /** A STATE that could be reached by another's turn is not reached by this one. */
+  static void promise27_aStateAtAnothersTurn() {
+    EverySecondWord x = Due.with("r0a7A;r7a1;r7b2C;e1;e2;", "p0ab;p0a;p0a;");
+    due.row("meanings", x::meanings, 1, -9);
+    due.row("and again", x::meanings, 1, -9);
+    x.order(102);
+    due.row("whose turn it then is has b", x::meanings, 1, 5, -9);
+  }
+
+  /** From now: what could be from the beginning is not looked at any more. */
+  static void promise27_fromNow() {
+    EverySecondWord x = Due.with("r0a0A;r0b1;r1b2B;r2c3;e0;e3;", "p0abc;");
+    due.row("from the beginning", x::meanings, 0, 1, 2, 3, -9);
+    due.is("it can stick", x.canStick(), 1);
+    Due.say(x, "bb");
+    due.row("behind b, b", x::meanings, 2, -9);
+    due.is("it can not stick", x.canStick(), 0);
+    x.set(0, 2);
+    due.row("at LENGTH", x::meanings, -9);
+    due.is("it is STUCK", x.canStick(), 1);
+    x.anew();
+    due.row("from the beginning, LENGTH 2", x::meanings, 0, 1, -9);
+  }
+
   // ---- 28: "CAN STICK. -3 nobody." ----
 
   static void promise28_nobodyMinus3() {
@@ -485,7 +583,7 @@ public final class BoundsOfPower {
     due.is("the first rule told", Due.with("r1a2;r0a1A;e2;", "p0a;").least(0, 0), 1);
     due.is("the second alone", Due.with("r0b2;r0a1A;e1;", "p0ab;").least(0, 0), 2);
     due.is("a pair", Due.with("r0c2;r0a1A;r0b1A;e1;", "p0abc;").least(0, 0), 6);
-    due.is("one is fewer than a pair of lesser bits", Due.with("r0a1;r0b2;r1a3;r2a3;r3a4A;e4;", "p0ab;").least(0, 0), 16);
+    due.is("one is fewer than two of lesser bits", Due.with("r0a1;r0b2;r1a3;r2a3;r3a4A;e4;", "p0ab;").least(0, 0), 16);
     due.is("of pairs the least", Due.with("r0a1;r0b2;r1a3A;r2a3A;e3;", "p0ab;").least(0, 0), 3);
   }
 
@@ -498,7 +596,8 @@ public final class BoundsOfPower {
   /** Where 24 RULES are, the last ones have the highest bits. */
   static void promise36_theHighestBits() {
     String[] others = {
-      "r1a0;r1b0;r1c0;r1d0;r1e0;r1f0;r1g0;r1h0;", "r2a0;r2b0;r2c0;r2d0;r2e0;r2f0;r2g0;r2h0;", "r4a0;r4b0;r4c0;r4d0;r4e0;r4f0;"
+      "r1a0;r1b0;r1c0;r1d0;r1e0;r1f0;r1g0;r1h0;", "r2a0;r2b0;r2c0;r2d0;r2e0;r2f0;r2g0;r2h0;",
+      "r4a0;r4b0;r4c0;r4d0;r4e0;r4f0;"
     };
     EverySecondWord x = Due.with(others);
     Due.tongue(x, "r0a3A;r0b3A;e3;p0ab;");

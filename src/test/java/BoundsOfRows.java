@@ -199,7 +199,9 @@ public final class BoundsOfRows {
   /** The draws told again with numbers that do not wrap by themselves. */
   static void promise40_drawsThatWrapAround() {
     EverySecondWord x = Due.with(ONE_OF_FOUR);
-    int[] seeds = {0, 1, -1, 2, MOST, LEAST, MOST - 1, LEAST + 1, 65535, 65536, -65536, 1103515245, 12345, -12345, 987654321};
+    int[] seeds = {
+      0, 1, -1, 2, MOST, LEAST, MOST - 1, LEAST + 1, 65535, 65536, -65536, 1103515245, 12345, -12345, 987654321
+    };
     for (int seed : seeds) {
       for (int n = 1; n <= 20; n++) {
         due.is("seeds(0, " + n + ", " + seed + ")", x.seeds(0, n, seed), sumOfOneOfFour(n, seed));
@@ -338,6 +340,102 @@ public final class BoundsOfRows {
   private static void anewAnd(EverySecondWord x, Runnable change) {
     x.anew();
     change.run();
+  }
+
+  /** Each word of the TALK with the state and the meaning that it left, though others were said since. */
+  static void promise42_theWordsOfTheTalk() {
+    EverySecondWord x = Due.with("r0a1A;r1a0B;r0b0C;r1b1D;l8;", "p0ab;p1ab;");
+    String said = "aabbabab";
+    int[] states = new int[9];
+    int[] meanings = new int[9];
+    for (int i = 0; i < 8; i++) {
+      Due.say(x, said.substring(i, i + 1));
+      states[i + 1] = x.talk(0);
+      meanings[i + 1] = x.talk(1);
+    }
+    int first = x.kinds(0);
+    int second = x.kinds(1);
+    x.image();
+    x.anew();
+    Due.say(x, "bbababba");
+    due.is("restore()", x.restore(), 8);
+    due.is("kinds(0)", x.kinds(0), first);
+    due.is("kinds(1)", x.kinds(1), second);
+    for (int i = 8; i > 0; i--) {
+      due.is("the state behind word " + i, x.talk(0), states[i]);
+      due.is("the meaning behind word " + i, x.talk(1), meanings[i]);
+      due.is("back()", x.back(), i - 1);
+    }
+    x.anew();
+    Due.say(x, "a");
+    due.is("PLAIN says a", x.kinds(0) & 2, 2);
+    x.image();
+    x.back();
+    Due.say(x, "b");
+    due.is("it does not say b", x.kinds(0) & 2, 0);
+    x.restore();
+    due.is("it said a", x.kinds(0) & 2, 2);
+  }
+
+  /** The eighth word alone is another since. */
+  static void promise42_theEighthWord() {
+    EverySecondWord x = Due.with("r0a0;r0b0;l8;", "p1ab;");
+    Due.say(x, "aaaaaaaa");
+    due.is("PLAIN says a", x.kinds(0), 127);
+    x.image();
+    x.back();
+    Due.say(x, "b");
+    due.is("it does not say b", x.kinds(0), 0);
+    x.restore();
+    due.is("it said a", x.kinds(0), 127);
+  }
+
+  /** All four people with all that they have. */
+  static void promise42_allPeople() {
+    EverySecondWord x = Due.with("p0;p1a;p2h;p3abcdefgh;");
+    for (int person = 0; person < 4; person++) {
+      for (int mark = 0; mark < 6; mark++) {
+        x.values(person, mark, (person * 6 + mark) % 19 - 9);
+      }
+    }
+    x.order(1032);
+    x.image();
+    String before = Portrait.of(x);
+    for (int person = 0; person < 4; person++) {
+      x.kind(person, 6);
+      x.word(person, 0, person == 0);
+      for (int mark = 0; mark < 6; mark++) {
+        x.values(person, mark, 9);
+      }
+    }
+    x.order(3210);
+    x.restore();
+    due.same("all there is", Portrait.of(x), before);
+  }
+
+  /** All 24 rules and eight ends. */
+  static void promise42_allRulesAndEnds() {
+    String[] rules = {
+      "r0a1A;r0b2B;r0c3C;r0d4D;r0e5E;r0f6F;r0g7;r0h0;", "r6a1A;r6b2B;r6c3C;r6d4D;r6e5E;r6f6F;r6g7;r6h0;"
+    };
+    EverySecondWord x = Due.with(rules);
+    Due.tongue(x, "e0;e7;e3;");
+    x.image();
+    String before = Portrait.of(x);
+    due.is("eight rules more", Due.tongue(x, "r7a1A;r7b2B;r7c3C;r7d4D;r7e5E;r7f6F;r7g7;r7h0;"), 8);
+    due.is("five ends more", Due.tongue(x, "e1;e2;e4;e5;e6;"), 5);
+    x.image();
+    String full = Portrait.of(x);
+    due.is("rule(23, 2)", x.rule(23, 2), 0);
+    EverySecondWord y = Due.with(rules);
+    Due.tongue(y, "e0;e7;e3;");
+    y.image();
+    Due.tongue(y, "r7h1A;r7g2B;r7f3C;r7e4D;r7d5E;r7c6F;r7b7;r7a0;");
+    y.restore();
+    due.same("the rules as they were", Portrait.of(y), before);
+    Due.tongue(y, "r7a1A;r7b2B;r7c3C;r7d4D;r7e5E;r7f6F;r7g7;r7h0;");
+    Due.tongue(y, "e1;e2;e4;e5;e6;");
+    due.same("the same rules told then", Portrait.of(y), full);
   }
 
   static void promise42_itIsThereStill() {

@@ -296,7 +296,9 @@ public final class BoundsOfTalks {
   /** "the i-th word (from 0) is said by the one at the place i modulo how many there are". */
   static void promise17_whoseTurnAroundThePeople() {
     int[] orders = {0, 1, 102, 2031};
-    int[][] turns = {{0, 0, 0, 0, 0, 0, 0, 0}, {1, 0, 1, 0, 1, 0, 1, 0}, {2, 0, 1, 2, 0, 1, 2, 0}, {1, 3, 0, 2, 1, 3, 0, 2}};
+    int[][] turns = {
+      {0, 0, 0, 0, 0, 0, 0, 0}, {1, 0, 1, 0, 1, 0, 1, 0}, {2, 0, 1, 2, 0, 1, 2, 0}, {1, 3, 0, 2, 1, 3, 0, 2}
+    };
     for (int people = 1; people <= 4; people++) {
       EverySecondWord x = Due.with("r0a0;l8;", "p0a;".repeat(people));
       x.order(orders[people - 1]);

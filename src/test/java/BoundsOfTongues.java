@@ -469,6 +469,22 @@ public final class BoundsOfTongues {
     due.row("person", what -> x.person(1, what), 4, 0, 1);
   }
 
+  /** Who comes changes nothing of those who are there. */
+  static void promise03_thoseWhoAreThereStayAsTheyAre() {
+    EverySecondWord x = new EverySecondWord();
+    for (int come = 0; come < 4; come++) {
+      due.is("one comes", Due.tongue(x, "p" + come + "abcdefgh".substring(0, 2 * come) + ";"), 1);
+      for (int mark = 0; mark < 6; mark++) {
+        x.values(come, mark, come + mark + 1);
+      }
+      for (int person = 0; person <= come; person++) {
+        int one = person;
+        due.row("person", what -> x.person(one, what), person, (1 << 2 * person) - 1, person);
+        due.row("worth", mark -> x.worth(one, mark), one + 1, one + 2, one + 3, one + 4, one + 5, one + 6);
+      }
+    }
+  }
+
   /** "perhaps a MARK". */
   static void promise03_aRuleWithAMarkOrNone() {
     EverySecondWord x = Due.with("r0a0;r0b0A;r0c0F;");
