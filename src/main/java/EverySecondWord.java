@@ -600,6 +600,16 @@ public final class EverySecondWord {
       }
     }
 
+    // The states of a rule are places in the rows of those who ask: nothing but 0 .. 7 is told, whatever came in.
+
+    int stateFrom(int rule) {
+      return rule >= 0 && rule < MOST_RULES && isState(from[rule]) ? from[rule] : 0;
+    }
+
+    int stateTo(int rule) {
+      return rule >= 0 && rule < MOST_RULES && isState(to[rule]) ? to[rule] : 0;
+    }
+
     /** The spot behind a word: the count grows in any case, so that no walk over spots is without end. */
     int spotBehind(int spot, int word) {
       int state = stateAt(spot);
@@ -1467,8 +1477,8 @@ public final class EverySecondWord {
       int moving = 0;
       for (int rule = 0; rule < grammar.size && rule < MOST_RULES; rule++) {
         if ((words >> grammar.by[rule] & 1) != 0 && (goneRules >> rule & 1) == 0) {
-          int state = grammar.from[rule];
-          long then = grammar.acrossRule(rule, sets[next + grammar.to[rule]]);
+          int state = grammar.stateFrom(rule);
+          long then = grammar.acrossRule(rule, sets[next + grammar.stateTo(rule)]);
           sets[row + state] = own ? sets[row + state] | then : sets[row + state] & then;
           moving |= 1 << state;
         }
@@ -1498,8 +1508,8 @@ public final class EverySecondWord {
       int moving = 0;
       for (int rule = 0; rule < grammar.size && rule < MOST_RULES; rule++) {
         if ((words >> grammar.by[rule] & 1) != 0) {
-          int state = grammar.from[rule];
-          int then = lengths[next + grammar.to[rule]];
+          int state = grammar.stateFrom(rule);
+          int then = lengths[next + grammar.stateTo(rule)];
           lengths[row + state] = own ? Math.max(lengths[row + state], then) : Math.min(lengths[row + state], then);
           moving |= 1 << state;
         }
@@ -1553,7 +1563,7 @@ public final class EverySecondWord {
       int words = world.wordsAt(count);
       for (int rule = 0; rule < grammar.size && rule < MOST_RULES; rule++) {
         if ((words >> grammar.by[rule] & 1) != 0) {
-          sets[next + grammar.to[rule]] |= grammar.acrossRule(rule, sets[row + grammar.from[rule]]);
+          sets[next + grammar.stateTo(rule)] |= grammar.acrossRule(rule, sets[row + grammar.stateFrom(rule)]);
         }
       }
       for (int state = 0; state < STATES; state++) {
